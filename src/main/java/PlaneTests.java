@@ -20,7 +20,8 @@ public final class PlaneTests {
 
     private final Graph graph;
     private final Rows toldRows;
-    private final int[] joined;
+    /** The NEIGHBOURS in another graph that is asked about. */
+    private final int[] otherJoined;
     private final PlaneCheck check;
     private final Filled filled;
     private final Round ring;
@@ -32,7 +33,6 @@ public final class PlaneTests {
 
     private boolean planeKnown;
     private boolean plane;
-    private boolean filledKnown;
     private boolean turnsKnown;
     private boolean drawingKnown;
     private boolean pieceKnown;
@@ -40,7 +40,7 @@ public final class PlaneTests {
     public PlaneTests() {
         graph = new Graph();
         toldRows = new Rows();
-        joined = new int[MOST_POINTS];
+        otherJoined = new int[MOST_POINTS];
         check = new PlaneCheck();
         filled = new Filled();
         ring = new Round(filled);
@@ -97,13 +97,12 @@ public final class PlaneTests {
     }
 
     public int outer() {
-        graph.findNeighbours(joined);
         int hub = graph.nodes;
-        joined[hub] = (1 << hub) - 1;
+        otherJoined[hub] = (1 << hub) - 1;
         for (int v = 0; v < hub; v++) {
-            joined[v] |= 1 << hub;
+            otherJoined[v] = graph.joined[v] | 1 << hub;
         }
-        return check.accepts(joined, hub + 1) ? 1 : 0;
+        return check.accepts(otherJoined, hub + 1) ? 1 : 0;
     }
 
     public int degree(int node) {
@@ -117,7 +116,8 @@ public final class PlaneTests {
         if (!isPlane()) {
             return NOT_SO;
         }
-        layTurns();
+        makeFilled();
+        makeTurns();
         return turns.has(node, k) ? turns.get(node, k) : NO_SUCH;
     }
 
@@ -125,7 +125,8 @@ public final class PlaneTests {
         if (!isPlane()) {
             return NOT_SO;
         }
-        layTurns();
+        makeFilled();
+        makeTurns();
         return turnFaces.rows.count;
     }
 
@@ -133,7 +134,8 @@ public final class PlaneTests {
         if (!isPlane()) {
             return NOT_SO;
         }
-        layTurns();
+        makeFilled();
+        makeTurns();
         return turnFaces.rows.has(k, i) ? turnFaces.rows.get(k, i) : NO_SUCH;
     }
 
@@ -144,7 +146,7 @@ public final class PlaneTests {
         if (!isPlane()) {
             return NOT_SO;
         }
-        fill();
+        makeFilled();
         if (k < 0 || k >= Integer.bitCount(filled.joined[node])) {
             return NO_SUCH;
         }
@@ -161,7 +163,8 @@ public final class PlaneTests {
         if (!hasDual()) {
             return NOT_SO;
         }
-        layTurns();
+        makeFilled();
+        makeTurns();
         return turnFaces.faceOf[2 * arc + what];
     }
 
@@ -169,7 +172,8 @@ public final class PlaneTests {
         if (!hasDual()) {
             return NOT_SO;
         }
-        layTurns();
+        makeFilled();
+        makeTurns();
         otherFaces.trace(turnFaces.rows);
         Rows back = otherFaces.rows;
         if (back.count != graph.nodes) {
@@ -193,7 +197,8 @@ public final class PlaneTests {
         if (!isPlane()) {
             return NOT_SO;
         }
-        draw();
+        makeFilled();
+        makeDrawing();
         return axis == 0 ? drawing.x[node] : drawing.y[node];
     }
 
@@ -201,7 +206,8 @@ public final class PlaneTests {
         if (!isPlane()) {
             return NOT_SO;
         }
-        draw();
+        makeFilled();
+        makeDrawing();
         for (int k = 0; k < graph.made; k++) {
             for (int m = 0; m < k; m++) {
                 if (areApart(k, m) && haveMorePoints(k, m)) {
@@ -216,7 +222,7 @@ public final class PlaneTests {
         if (isPlane()) {
             return NOT_SO;
         }
-        findPiece();
+        makePiece();
         return barredPiece.arcAt(k);
     }
 
@@ -224,7 +230,7 @@ public final class PlaneTests {
         if (isPlane()) {
             return 0;
         }
-        findPiece();
+        makePiece();
         return barredPiece.kind();
     }
 
@@ -232,7 +238,7 @@ public final class PlaneTests {
         if (isPlane()) {
             return NOT_SO;
         }
-        findPiece();
+        makePiece();
         return barredPiece.branchAt(k);
     }
 
@@ -243,7 +249,7 @@ public final class PlaneTests {
         if (isPlane()) {
             return NOT_SO;
         }
-        findPiece();
+        makePiece();
         if (!barredPiece.kept[arc]) {
             return NOT_SO;
         }
@@ -271,7 +277,8 @@ public final class PlaneTests {
         if (!isPlane()) {
             return NOT_SO;
         }
-        layTurns();
+        makeFilled();
+        makeTurns();
         toldRows.copy(turns);
         return 1;
     }
@@ -289,7 +296,6 @@ public final class PlaneTests {
 
     private void forget() {
         planeKnown = false;
-        filledKnown = false;
         turnsKnown = false;
         drawingKnown = false;
         pieceKnown = false;
@@ -297,31 +303,25 @@ public final class PlaneTests {
 
     private boolean isPlane() {
         if (!planeKnown) {
-            graph.findNeighbours(joined);
-            plane = filled.isOf(joined, graph.nodes) || check.accepts(joined, graph.nodes);
+            int count = graph.nodes;
+            plane = filled.isOf(graph.joined, count) || check.accepts(graph.joined, count);
             planeKnown = true;
         }
         return plane;
     }
 
-    private void fill() {
-        if (filledKnown) {
-            return;
-        }
-        graph.findNeighbours(joined);
-        if (!filled.isOf(joined, graph.nodes)) {
-            filled.fill(joined, graph.nodes, check);
+    private void makeFilled() {
+        if (!filled.isOf(graph.joined, graph.nodes)) {
+            filled.fill(graph.joined, graph.nodes, check);
+            ring.findFaces();
             ring.lay();
         }
-        filledKnown = true;
     }
 
-    private void layTurns() {
+    private void makeTurns() {
         if (turnsKnown) {
             return;
         }
-        fill();
-        graph.findNeighbours(joined);
         turns.empty();
         for (int v = 0; v < graph.nodes; v++) {
             turns.open();
@@ -336,7 +336,7 @@ public final class PlaneTests {
         int count = Integer.bitCount(filled.joined[v]);
         int w = lowest(filled.joined[v]);
         for (int i = 0; i < count; i++) {
-            if (hasBit(joined[v], w)) {
+            if (hasBit(graph.joined[v], w)) {
                 layAlike(v, w);
             }
             w = ring.behind(v, w);
@@ -363,17 +363,16 @@ public final class PlaneTests {
         }
     }
 
-    private void draw() {
-        fill();
+    private void makeDrawing() {
         if (!drawingKnown) {
             drawing.lay();
             drawingKnown = true;
         }
     }
 
-    private void findPiece() {
+    private void makePiece() {
         if (!pieceKnown) {
-            barredPiece.find(joined, check);
+            barredPiece.find(otherJoined, check);
             pieceKnown = true;
         }
     }
@@ -383,13 +382,12 @@ public final class PlaneTests {
     }
 
     private int countParts() {
-        graph.findNeighbours(joined);
         int all = (1 << graph.nodes) - 1;
         int seen = 0;
         int parts = 0;
         for (int v = 0; v < graph.nodes; v++) {
             if (!hasBit(seen, v)) {
-                seen |= reached(joined, v, all);
+                seen |= reached(graph.joined, v, all);
                 parts++;
             }
         }
@@ -466,7 +464,10 @@ public final class PlaneTests {
         /** The node of each END. */
         private final int[] at = new int[MOST_ENDS];
         private final boolean[] there = new boolean[MOST_ARCS];
+        /** The NEIGHBOURS of each node, as a mask. */
+        private final int[] joined = new int[MOST_NODES];
         private int nodes;
+        /** How many ARCS were made, and how many of them are left. */
         private int made;
         private int left;
 
@@ -474,6 +475,7 @@ public final class PlaneTests {
             nodes = 0;
             made = 0;
             left = 0;
+            findNeighbours(there, joined);
         }
 
         boolean hasNode(int v) {
@@ -499,12 +501,14 @@ public final class PlaneTests {
             there[made] = true;
             made++;
             left++;
+            findNeighbours(there, joined);
             return made - 1;
         }
 
         int removeArc(int k) {
             there[k] = false;
             left--;
+            findNeighbours(there, joined);
             return left;
         }
 
@@ -519,11 +523,8 @@ public final class PlaneTests {
             return at[2 * k] == w && at[2 * k + 1] == v ? 2 * k + 1 : -1;
         }
 
-        void findNeighbours(int[] masks) {
-            findNeighboursBy(there, masks);
-        }
-
-        void findNeighboursBy(boolean[] chosen, int[] masks) {
+        /** The NEIGHBOURS by some of the ARCS alone. */
+        void findNeighbours(boolean[] chosen, int[] masks) {
             Arrays.fill(masks, 0);
             for (int k = 0; k < made; k++) {
                 if (chosen[k] && !isLoop(k)) {
@@ -689,8 +690,15 @@ public final class PlaneTests {
             if (links / 2 > 3 * count - 6) {
                 return false;
             }
-            search(joined, count);
-            groups = 0;
+            prepare(joined, count);
+            for (int v = 0; v < count; v++) {
+                if (height[v] < 0) {
+                    searchFrom(v);
+                }
+            }
+            for (int h = 1; h <= count; h++) {
+                lower[h] |= lower[h - 1];
+            }
             for (int v = 0; v < count; v++) {
                 if (!sidesFit(findLeading(v, count))) {
                     return false;
@@ -699,8 +707,9 @@ public final class PlaneTests {
             return true;
         }
 
-        private void search(int[] joined, int count) {
+        private void prepare(int[] joined, int count) {
             backs = 0;
+            groups = 0;
             Arrays.fill(lower, 0L);
             for (int v = 0; v < count; v++) {
                 height[v] = -1;
@@ -708,19 +717,11 @@ public final class PlaneTests {
                 own[v] = 0L;
                 under[v] = 0L;
             }
-            for (int v = 0; v < count; v++) {
-                if (height[v] < 0) {
-                    height[v] = 0;
-                    parent[v] = -1;
-                    searchFrom(v);
-                }
-            }
-            for (int h = 1; h <= count; h++) {
-                lower[h] |= lower[h - 1];
-            }
         }
 
         private void searchFrom(int root) {
+            height[root] = 0;
+            parent[root] = -1;
             int v = root;
             for (int step = 0; step < MOST_STEPS && v >= 0; step++) {
                 if (open[v] == 0) {
@@ -891,9 +892,9 @@ public final class PlaneTests {
             this.filled = filled;
         }
 
-        /** The NEIGHBOUR of v that comes behind the NEIGHBOUR w. */
+        /** The NEIGHBOUR of v that comes behind the NEIGHBOUR w; -1 if there is no such w. */
         int behind(int v, int w) {
-            return order[v * MOST_NODES + w];
+            return w >= 0 && w < MOST_NODES ? order[v * MOST_NODES + w] : -1;
         }
 
         int neighbour(int v, int k) {
@@ -904,20 +905,11 @@ public final class PlaneTests {
             return w;
         }
 
-        int thirdsOf(int v, int w) {
+        private int thirdsOf(int v, int w) {
             return thirds[v * MOST_NODES + w];
         }
 
-        void lay() {
-            findThirds();
-            if (filled.nodes < 4) {
-                layRising();
-            } else {
-                layByThirds();
-            }
-        }
-
-        private void findThirds() {
+        void findFaces() {
             Arrays.fill(thirds, 0);
             int[] joined = filled.joined;
             for (int a = 0; a < filled.nodes; a++) {
@@ -931,6 +923,14 @@ public final class PlaneTests {
                         }
                     }
                 }
+            }
+        }
+
+        void lay() {
+            if (filled.nodes < 4) {
+                layRising();
+            } else {
+                layByThirds();
             }
         }
 
@@ -1022,8 +1022,6 @@ public final class PlaneTests {
         private int b;
         private int c;
         private int rim;
-        /** Whether ROUND leads through the inner side from the way to a to the way to b. */
-        private boolean fromA;
 
         Drawing(Filled filled, Round ring) {
             this.filled = filled;
@@ -1036,23 +1034,21 @@ public final class PlaneTests {
             if (filled.nodes == 2) {
                 x[1] = 1;
             }
-            if (filled.nodes >= 3) {
-                findOuter();
+            if (filled.nodes >= 3 && findOuter()) {
                 findWays();
                 countAll();
             }
         }
 
-        private void findOuter() {
-            for (a = 0; a < filled.nodes; a++) {
-                for (b = a + 1; b < filled.nodes; b++) {
-                    int more = ring.thirdsOf(a, b) & -(2 << b);
-                    if (more != 0) {
-                        c = lowest(more);
-                        return;
-                    }
-                }
-            }
+        /**
+         * The least FACE has node 0 and its least NEIGHBOUR; of the two that have both, ROUND is
+         * such that it leads at node 0 over the one whose third node is less.
+         */
+        private boolean findOuter() {
+            a = 0;
+            b = lowest(filled.joined[a]);
+            c = ring.behind(a, b);
+            return c >= 0;
         }
 
         private void findWays() {
@@ -1060,10 +1056,8 @@ public final class PlaneTests {
             Arrays.fill(toB, -1);
             Arrays.fill(toC, -1);
             rim = 1 << a | 1 << b | 1 << c;
-            fromA = true;
-            link(a, c);
-            link(c, b);
-            fromA = ring.behind(c, a) != b;
+            link(b, c);
+            link(c, a);
             takeOff(c);
             for (int i = 3; i < filled.nodes; i++) {
                 takeOff(greatestFree());
@@ -1080,6 +1074,10 @@ public final class PlaneTests {
             return -1;
         }
 
+        /**
+         * As ROUND leads at a from b to c, it leads at each node of the RIM from the way to b over
+         * the inner side to the way to a.
+         */
         private void takeOff(int v) {
             if (v < 0) {
                 return;
@@ -1087,28 +1085,22 @@ public final class PlaneTests {
             toA[v] = rimToA[v];
             toB[v] = rimToB[v];
             rim &= ~(1 << v);
-            int last = fromA ? toA[v] : toB[v];
-            int end = fromA ? toB[v] : toA[v];
+            int last = toB[v];
             int w = ring.behind(v, last);
-            for (int i = 0; i < MOST_NODES && w >= 0 && w != end; i++) {
+            for (int i = 0; i < MOST_NODES && w >= 0 && w != toA[v]; i++) {
                 toC[w] = v;
                 rim |= 1 << w;
                 link(last, w);
                 last = w;
                 w = ring.behind(v, w);
             }
-            link(last, end);
+            link(last, toA[v]);
         }
 
-        /** Two nodes that come to lie side by side on the rim, in the order of ROUND. */
+        /** Two nodes come to lie side by side on the RIM, the first of them nearer to b. */
         private void link(int v, int w) {
-            if (fromA) {
-                rimToB[v] = w;
-                rimToA[w] = v;
-            } else {
-                rimToA[v] = w;
-                rimToB[w] = v;
-            }
+            rimToA[v] = w;
+            rimToB[w] = v;
         }
 
         private void countAll() {
@@ -1206,7 +1198,7 @@ public final class PlaneTests {
             for (int k = graph.made - 1; k >= 0; k--) {
                 if (kept[k]) {
                     kept[k] = false;
-                    graph.findNeighboursBy(kept, masks);
+                    graph.findNeighbours(kept, masks);
                     kept[k] = check.accepts(masks, graph.nodes);
                 }
             }
