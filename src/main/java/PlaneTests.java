@@ -651,26 +651,28 @@ public final class PlaneTests {
     }
 
     /**
-     * Whether a graph without LOOPS and ALIKE ARCS is PLANE. A search from node to node tells tree
-     * arcs from back arcs, which lead up the tree. The graph is PLANE just if each back arc can be
-     * given one of two sides, so that at each node, of any two arcs that lead on from it, the back
-     * arcs over the one that end above the lowest end over the other have one side, and those over
-     * the other that end above the lowest end over the one have the other side (the left-right
-     * criterion of de Fraysseix and Rosenstiehl).
+     * Whether a graph without LOOPS and ALIKE ARCS is PLANE. A search from node to node gives each
+     * node a height above the one it began at, and tells tree arcs, which lead one up, from back
+     * arcs, which lead down to a node that the search came by. The graph is PLANE just if each back
+     * arc can be given one of two sides, so that of any two arcs that lead on from a node, the back
+     * arcs that are met over the one and end higher than the lowest that is met over the other all
+     * have one side, and those that are met over the other and end higher than the lowest over the
+     * one all have the other side (the left-right criterion of de Fraysseix and Rosenstiehl).
      */
     private static final class PlaneCheck {
-        /** A mask of 64 bits holds all back arcs: of a graph with more arcs it is known at once. */
+        /** A graph with more arcs is not PLANE, so a mask of 64 bits holds all back arcs. */
         private static final int MOST_LINKS = 3 * MOST_POINTS - 6;
         private static final int MOST_STEPS = MOST_POINTS * MOST_POINTS + MOST_POINTS;
 
         private final int[] height = new int[MOST_POINTS];
         private final int[] parent = new int[MOST_POINTS];
         private final int[] open = new int[MOST_POINTS];
-        /** Back arcs that begin at a node, and those that begin there or further down. */
+        /** Back arcs that begin at a node, and those that begin there or further on. */
         private final long[] own = new long[MOST_POINTS];
         private final long[] under = new long[MOST_POINTS];
         /** By heights: the back arcs that end lower than this. */
         private final long[] lower = new long[MOST_POINTS + 1];
+        /** Of arcs that lead on from one node: the back arcs over each, and their lowest end. */
         private final long[] leading = new long[MOST_POINTS];
         private final int[] lowEnd = new int[MOST_POINTS];
         /** Groups of back arcs whose sides hang together: each has two masks, one a side. */
@@ -755,7 +757,7 @@ public final class PlaneTests {
             lower[end + 1] |= bit;
         }
 
-        /** Of each arc that leads on from a node: the back arcs over it that end above the node. */
+        /** For each arc that leads on from a node: the back arcs over it that end below it. */
         private int findLeading(int v, int count) {
             int found = 0;
             if (own[v] != 0L) {
@@ -859,22 +861,23 @@ public final class PlaneTests {
             int room = (count < 3 ? count * (count - 1) / 2 : 3 * count - 6) - links / 2;
             for (int v = 0; v < count; v++) {
                 for (int w = v + 1; w < count && room > 0; w++) {
-                    if (!hasBit(joined[v], w) && join(v, w, check)) {
+                    if (hasBit(joined[v], w)) {
+                        continue;
+                    }
+                    turnOver(v, w);
+                    if (check.accepts(joined, count)) {
                         room--;
+                    } else {
+                        turnOver(v, w);
                     }
                 }
             }
         }
 
-        private boolean join(int v, int w, PlaneCheck check) {
-            joined[v] |= 1 << w;
-            joined[w] |= 1 << v;
-            if (check.accepts(joined, nodes)) {
-                return true;
-            }
-            joined[v] &= ~(1 << w);
-            joined[w] &= ~(1 << v);
-            return false;
+        /** Two nodes that were not joined are, or the other way round. */
+        private void turnOver(int v, int w) {
+            joined[v] ^= 1 << w;
+            joined[w] ^= 1 << v;
         }
     }
 

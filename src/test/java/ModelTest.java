@@ -10,11 +10,12 @@ public final class ModelTest {
   private static Random random;
   private static String where;
 
+  /** Other seeds can be named: the first one, and how many. */
   public static void main(String[] args) {
-    for (int seed = 0; seed < 120; seed++) {
+    int first = args.length > 1 ? Integer.parseInt(args[0]) : 0;
+    int count = args.length > 1 ? Integer.parseInt(args[1]) : 120;
+    for (int seed = first; seed < first + count; seed++) {
       mixedRun(seed);
-    }
-    for (int seed = 0; seed < 120; seed++) {
       wholeRun(seed);
     }
     CHECKS.finish();

@@ -450,7 +450,7 @@ public final class PromisesTest {
     due("19: plane comes first", y.branch(-1), -3);
   }
 
-  /** K5 with node 5 on the arc between 3 and 4, and behind it a loop, an alike one, and one more. */
+  /** K5 with node 5 between 3 and 4, and then a loop, an alike arc, and one arc more. */
   private static PlaneTests k5WithMore() {
     PlaneTests x = graph(6);
     for (int i = 0; i < 18; i += 2) x.arc(K5[i], K5[i + 1]);
