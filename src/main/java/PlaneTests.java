@@ -780,8 +780,8 @@ public final class PlaneTests {
                 return found;
             }
             int low = 0;
-            for (int h = 0; h < MOST_POINTS && (mask & lower[h + 1]) == 0L; h++) {
-                low = h + 1;
+            for (int h = 1; h < MOST_POINTS && (mask & lower[h]) == 0L; h++) {
+                low = h;
             }
             leading[found] = mask;
             lowEnd[found] = low;
