@@ -128,6 +128,50 @@ public final class SmallGraphsTest {
     return count;
   }
 
+  // "FILLED is ..": the graph, and pairs in their order with which it is PLANE still. "ROUND is the
+  // order of NEIGHBOURS of each node in FILLED, by TURNS of GENUS 0", which "are as good as one".
+  private static void promise12RoundAsItIsWritten() {
+    for (int n = 1; n <= 6; n++) {
+      boolean[] plane = new boolean[graphs(n)];
+      for (int g = 0; g < plane.length; g++) plane[g] = Graphs.graph(n, pairs(n, g)).test() == 1;
+      for (int g = 0; g < plane.length; g++) {
+        if (plane[g]) dueRound(n, g, filled(g, plane));
+      }
+    }
+  }
+
+  private static int filled(int number, boolean[] plane) {
+    int found = number;
+    for (int bit = 1; bit < plane.length; bit <<= 1) {
+      if (plane[found | bit]) found |= bit;
+    }
+    return found;
+  }
+
+  private static void dueRound(int nodes, int number, int filled) {
+    PlaneTests x = Graphs.graph(nodes, pairs(nodes, number));
+    int[] pairs = pairs(nodes, filled);
+    List<List<Integer>> rows = new ArrayList<>();
+    for (int v = 0; v < nodes; v++) {
+      List<Integer> row = new ArrayList<>();
+      for (int k = 0; x.round(v, k) >= 0 && k < nodes; k++) row.add(x.round(v, k));
+      List<Integer> ends = new ArrayList<>();
+      for (int e = 0; e < pairs.length; e++) if (pairs[e] == v) ends.add(e);
+      due("neighbours in graph " + number, row.size(), ends.size());
+      if (row.isEmpty()) return;
+      due("the first", row.get(0), java.util.Collections.min(row));
+      ends.sort(java.util.Comparator.comparingInt(e -> row.indexOf(pairs[e ^ 1])));
+      for (int i = 0; i < row.size() && i < ends.size(); i++) {
+        due("neighbour in graph " + number, row.get(i), pairs[ends.get(i) ^ 1]);
+      }
+      rows.add(ends);
+      if (v == 0 && row.size() > 2) {
+        due("the way round", row.get(1) < row.get(row.size() - 1) ? 1 : 0, 1);
+      }
+    }
+    due("twice the genus of graph " + number, twiceGenus(rows, pairs), 0);
+  }
+
   // "All rows of the TURNS told become those of THE TURNS": which are TURNS of GENUS 0.
   private static void promise23TheTurnsHaveGenusZero() {
     for (int g = 0; g < graphs(6); g += 3) {
